@@ -104,9 +104,10 @@ public final class BarredTurns {
 
     public int rank() {
         rankings++;
-        int moved = ladder.findOrderAgain(net);
+        ladder.noteRanks();
+        ladder.findOrder(net);
         measureAll();
-        return moved;
+        return ladder.countMoved();
     }
 
     private void makeAnew() {
@@ -604,10 +605,12 @@ public final class BarredTurns {
             }
         }
 
-        /** How many roads have another rank by the new order. */
-        int findOrderAgain(Net net) {
+        void noteRanks() {
             System.arraycopy(ranks, 0, ranksBefore, 0, MOST_ROADS);
-            findOrder(net);
+        }
+
+        /** How many roads have another rank than when the ranks were noted. */
+        int countMoved() {
             int moved = 0;
             for (int road = 0; road < size; road++) {
                 moved += ranks[road] != ranksBefore[road] ? 1 : 0;
