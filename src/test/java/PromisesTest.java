@@ -518,51 +518,14 @@ public final class PromisesTest {
         }
     }
 
-    /** Promise 23: made here from what the other calls answer. */
-    private static long digestOf(BarredTurns x, String page) {
-        long h = 1627;
-        int n = x.count(0);
-        for (int i = 0; i < 6 * n; i++) {
-            h = 31 * h + x.road(i / 6, i % 6);
-        }
-        for (int i = 0; i < n * n; i++) {
-            int r = i / n;
-            int s = i % n;
-            h = 31 * h + x.least(r, s);
-            h = 31 * h + x.up(r, s);
-            h = 31 * h + x.down(r, s);
-            h = 31 * h + x.meet(r, s);
-            for (int what = 0; what < 4; what++) {
-                h = 31 * h + x.arc(r, s, what);
-            }
-        }
-        for (int i = 0; i < 64; i++) {
-            if (i / 8 != i % 8) {
-                h = 31 * h + x.route(i / 8, i % 8);
-            }
-        }
-        for (int r = 0; r < n; r++) {
-            h = 31 * h + x.loss(r, 100);
-        }
-        for (int what = 0; what < 6; what++) {
-            h = 31 * h + x.all(what);
-        }
-        for (int i = 0; i < page.length(); i++) {
-            h = 31 * h + page.charAt(i);
-        }
-        for (int what = 0; what < 7; what++) {
-            h = 31 * h + x.count(what);
-        }
-        return h;
-    }
-
+    /** Promise 23. */
     private static void digests() {
         BarredTurns none = new BarredTurns();
-        due("digest() of a new object", none.digest(), digestOf(none, ""));
+        due("digest() of a new object", none.digest(), Check.digestOf(none, ""));
         BarredTurns x = nested();
         Check.write(x, "ab~ ");
-        due("digest()", x.digest(), digestOf(x, "ab~ "));
-        due("digest() again", x.digest(), digestOf(x, "ab~ "));
+        due("digest()", x.digest(), Check.digestOf(x, "ab~ "));
+        due("digest() again", x.digest(), Check.digestOf(x, "ab~ "));
     }
 
     /** Terms: a SHORTCUT only where nothing as good goes by; ORDER; what comes at once. */
