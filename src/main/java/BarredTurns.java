@@ -532,8 +532,10 @@ public final class BarredTurns {
             return costs.get(r, s) >= 0;
         }
 
+        /** Looks at the cost itself, not by hasStep: so calls stay eight deep at most. */
         int stepWorth(int r, int s) {
-            return hasStep(r, s) ? costs.get(r, s) + lengths[s] : FAR;
+            int cost = costs.get(r, s);
+            return cost >= 0 ? cost + lengths[s] : FAR;
         }
 
         int stepKey(int r, int s) {

@@ -22,6 +22,7 @@ public final class EdgesTest {
         stretches();
         turns();
         ranks();
+        ranksThatTurn();
         roadsAsked();
         costs();
         orders();
@@ -218,10 +219,16 @@ public final class EdgesTest {
         due("road(0, 2)", x.road(0, 2), 1);
         due("others are gone: road(1, 0)", x.road(1, 0), UNKNOWN);
         due("others are gone: count(2)", x.count(2), 0);
+        due("others are gone: count(3)", x.count(3), 0);
         due("others are gone: all(2)", x.all(2), 0);
         due("others are gone: all(4)", x.all(4), 1);
         due("ORDER is found: order(0)", x.order(0), 0);
         due("order(1)", x.order(1), UNKNOWN);
+        BarredTurns barred = Check.read("ab1,ba1");
+        due("count(3) of both", barred.count(3), 2);
+        Check.write(barred, "ab1");
+        barred.roads();
+        due("others are gone: count(3)", barred.count(3), 0);
         BarredTurns fresh = Check.read("gh1,ab1,bc1");
         BarredTurns later = withPage("gh1,ab1,bc1");
         later.roads();
@@ -285,9 +292,28 @@ public final class EdgesTest {
         due("rank() again", x.rank(), 0);
         x.turn(1, 2, 50);
         due("rank() back", x.rank(), 2);
+        due("UP goes by the RANKS that are: up(1, 2)", x.up(1, 2), 51);
         Check.write(x, "ab1,bc1,gh1");
         x.roads();
         due("rank() of other ROADS just read", x.rank(), 0);
+    }
+
+    private static void ranksThatTurn() {
+        of("8: ORDER is found anew, by LENGTHS and TURNS as they are");
+        // ORDER is 1, 0, 2 as long as the TURN from 0 to 1 is BARRED, else 0, 1, 2
+        BarredTurns x = Check.read("ab1,bc1,cd1");
+        x.turn(0, 1, BARRED);
+        due("rank()", x.rank(), 2);
+        x.turn(0, 1, 0);
+        due("from 0 down to 1: up(0, 1)", x.up(0, 1), NONE);
+        due("down(0, 1)", x.down(0, 1), 1);
+        due("meet(0, 1)", x.meet(0, 1), 0);
+        due("over 1: all(3)", x.all(3), 1);
+        due("rank() again", x.rank(), 2);
+        due("from 0 up to 1: up(0, 1)", x.up(0, 1), 1);
+        due("down(0, 1)", x.down(0, 1), NONE);
+        due("meet(0, 1)", x.meet(0, 1), 1);
+        due("over none: all(3)", x.all(3), 0);
     }
 
     private static void roadsAsked() {

@@ -23,11 +23,14 @@ public final class TermsTest {
         arcsOneAtMost();
         rowsNotOverTheMiddle();
         rowsOverTheMiddle();
+        rowsOverTheMiddleThatStay();
+        endsOfTheFirstNumber();
         roadsUnlike();
         roadsWithRank();
         orderOfLikeOnes();
         orderAsItIs();
         longestUnpacked();
+        longestUnpackedBehindTheMiddle();
         upsAndDowns();
         meetsOfLikeOnes();
         routesThatAreNone();
@@ -337,6 +340,49 @@ public final class TermsTest {
         due("the dear ARC stays: arc(3, 0, 0)", dearer.arc(3, 0, 0), 4);
     }
 
+    /** As twoWaysToTheMiddle, with 1 to begin and 3, 2 on the way: 1 gets its RANK ahead of these. */
+    private static BarredTurns endAheadOfTheOthers(int costAtOnce) {
+        BarredTurns x = Check.allBarred("bc1,ab1,db1,bd1,ce1");
+        x.turn(1, 3, 0);
+        x.turn(3, 2, 0);
+        x.turn(2, 0, 0);
+        x.turn(0, 4, 0);
+        x.turn(1, 0, costAtOnce);
+        return x;
+    }
+
+    private static void rowsOverTheMiddleThatStay() {
+        of("NEEDS a SHORTCUT, if those over v have W together, or more (no later one takes its place)");
+        BarredTurns same = endAheadOfTheOthers(2);
+        dueArc(same, 1, 4, 4, 0);
+        due("as much: all(3)", same.all(3), 3);
+        BarredTurns dearer = endAheadOfTheOthers(3);
+        dueArc(dearer, 1, 4, NONE, NONE);
+        dueUnpacked(dearer, 1, 4);
+        due("less over v: all(3)", dearer.all(3), 2);
+    }
+
+    private static void endsOfTheFirstNumber() {
+        of("A ROAD v without RANK NEEDS a SHORTCUT from u to w, numbered from 0");
+        // ORDER 1, 0, 2 is found while nothing leads from 0 to 1, or from 1 to 0
+        BarredTurns from = Check.read("ab1,bc1,cd1");
+        from.turn(0, 1, BARRED);
+        from.rank();
+        dueOrder(from, 1, 0, 2);
+        from.turn(0, 1, 0);
+        dueArc(from, 0, 2, 2, 1);
+        due("u is 0: road(1, 4)", from.road(1, 4), 1);
+        dueUnpacked(from, 0, 2, 0, 1, 2);
+        BarredTurns to = Check.read("cd1,bc1,ab1");
+        to.turn(1, 0, BARRED);
+        to.rank();
+        dueOrder(to, 1, 0, 2);
+        to.turn(1, 0, 0);
+        dueArc(to, 2, 0, 2, 1);
+        due("w is 0: road(1, 4)", to.road(1, 4), 1);
+        dueUnpacked(to, 2, 0, 2, 1, 0);
+    }
+
     private static void roadsUnlike() {
         of("NEEDS a SHORTCUT from u to w (u, v, w unlike)");
         BarredTurns x = Check.read("ab1,ba1");
@@ -409,6 +455,23 @@ public final class TermsTest {
         due("all(3)", x.all(3), 10);
         due("up(10, 11)", x.up(10, 11), 11 * 149);
         due("meet(10, 11)", x.meet(10, 11), 11);
+    }
+
+    private static void longestUnpackedBehindTheMiddle() {
+        of("UNPACKED: what the ARC to the MIDDLE stands for, then what that from it does");
+        // in one row behind each other: 10, then 9 to 0, then 11
+        BarredTurns x = Check.allBarred("eg1,ce1,ac1,ha1,gh1,fg1,ef1,de1,cd1,bc1,ab1,ga1");
+        x.turn(10, 9, 0);
+        for (int r = 9; r > 0; r--) {
+            x.turn(r, r - 1, 0);
+        }
+        x.turn(0, 11, 0);
+        dueArc(x, 10, 11, 11, 9);
+        dueArc(x, 9, 11, 10, 8);
+        dueUnpacked(x, 10, 11, 10, 9, 8, 7, 6, 5, 4, 3, 2, 1, 0, 11);
+        dueUnpacked(x, 1, 11, 1, 0, 11);
+        due("all(2)", x.all(2), 21);
+        due("all(3)", x.all(3), 10);
     }
 
     private static void upsAndDowns() {
